@@ -73,32 +73,35 @@ public final class VeneerDesk {
             && isFrom(length, LEAST_LENGTH, MOST_LENGTH)
             && isFrom(wide, LEAST_LOG_WIDE, MOST_LOG_WIDE)
             && isFrom(grows, -MOST_GROWS, MOST_GROWS);
-        if (can) {
-            yard.logs[l].begin(n, length, wide, grows);
-            yard.forgetMadeOf(l);
+        if (!can) {
+            return false;
         }
-        return can;
+        yard.logs[l].begin(n, length, wide, grows);
+        yard.forgetMadeOf(l);
+        return true;
     }
 
     /** Tells the TONE of a LOG's first LEAF, and how it changes from LEAF to LEAF. */
     public boolean tone(int l, int tone, int darkens) {
         Log log = yard.logAt(l);
-        boolean can = log != null
-            && isFrom(tone, 0, MOST_TONE)
-            && isFrom(darkens, -MOST_DARKENS, MOST_DARKENS);
-        if (can) {
-            log.tone = tone;
-            log.darkens = darkens;
+        if (log == null || !isFrom(tone, 0, MOST_TONE)) {
+            return false;
         }
-        return can;
+        if (!isFrom(darkens, -MOST_DARKENS, MOST_DARKENS)) {
+            return false;
+        }
+        log.tone = tone;
+        log.darkens = darkens;
+        return true;
     }
 
     /** Adds a FLAW, in LEAF first alone, to a LOG. */
     public int flaw(int l, int first, int x, int y, int wide, int high) {
         Log log = yard.logAt(l);
-        boolean can = log != null
-            && log.hasLeaf(first)
-            && isFrom(x, 0, MOST_FLAW_PLACE)
+        if (log == null || !log.hasLeaf(first)) {
+            return NONE;
+        }
+        boolean can = isFrom(x, 0, MOST_FLAW_PLACE)
             && isFrom(y, 0, MOST_FLAW_PLACE)
             && isFrom(wide, 1, MOST_BOX)
             && isFrom(high, 1, MOST_BOX);
@@ -108,9 +111,10 @@ public final class VeneerDesk {
     /** Lets the latest FLAW of a LOG drift up to a LEAF. */
     public boolean drift(int l, int last, int dx, int dy) {
         Log log = yard.logAt(l);
-        return log != null
-            && log.hasLeaf(last)
-            && isFrom(dx, -MOST_DRIFT, MOST_DRIFT)
+        if (log == null || !log.hasLeaf(last)) {
+            return false;
+        }
+        return isFrom(dx, -MOST_DRIFT, MOST_DRIFT)
             && isFrom(dy, -MOST_DRIFT, MOST_DRIFT)
             && log.driftLatest(last, dx, dy);
     }
@@ -982,8 +986,8 @@ public final class VeneerDesk {
         }
 
         private boolean findFrom(Door door, Log log, int f) {
-            int lastX = MOST_BOX;
-            int lastY = log.length;
+            int lastX = log.widthOf(f + door.leastOffset) - door.wide;
+            int lastY = log.length - door.high;
             for (int offset = door.leastOffset; offset <= door.greatestOffset; offset++) {
                 if (door.stacked[offset] > 0) {
                     lastX = Math.min(lastX, log.widthOf(f + offset) - door.wide);

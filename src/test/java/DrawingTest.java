@@ -44,6 +44,8 @@ public final class DrawingTest {
         c.duePieces("!0", 1, OVER);
         c.duePieces("!!0", 1, 0);
         c.duePieces("~0", 1, OVER + UPSIDE);
+        c.duePieces("~~0", 1, 0);
+        c.duePieces("~~(0/1)", 1, 0, 1);
         c.duePieces("!~0", 1, UPSIDE);
         c.duePieces("~!0", 1, UPSIDE);
         c.duePieces("!(0|1|2)", 3, 2 + OVER, 1 + OVER, OVER);
@@ -367,6 +369,15 @@ public final class DrawingTest {
         };
         for (int[] w : want) {
             c.due("same(" + w[0] + ", " + w[1] + ", " + w[2] + ")", x.same(w[0], w[1], w[2]), w[3]);
+        }
+        String[][] unlike = {
+            {"0|1", "0|1|2"}, {"0|1|2", "0|1"}, {"0/1", "0/1/2"}, {"0/1/2", "0/1"}, {"0|1|2", "3|1|2"},
+            {"0/1/2", "3/1/2"}, {"0|1|2", "0|1|3"}, {"0/1/2", "0/1/3"}, {"0", "!0"}, {"0", "!~0"},
+        };
+        for (String[] pair : unlike) {
+            c.door(0, 1, 1, 0, pair[0]);
+            c.door(1, 1, 1, 0, pair[1]);
+            c.due(pair[0] + " and " + pair[1], x.same(0, 1, 0), 0);
         }
         c.door(7, 1, 1, 0, "0|!0");
         c.due("a DRAWING that is its own glass", x.same(7, 7, 1), 1);

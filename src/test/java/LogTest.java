@@ -182,6 +182,16 @@ public final class LogTest {
         c.door(1, 1, 1, 0, "0");
         c.due("why at x 1", x.why(1, 0, 3, 20, 1), 3);
         c.due("why at x 2", x.why(1, 0, 3, 20, 2), 0);
+        for (int n = 2; n < 10; n++) {
+            x.flaw(0, 0, 10, 40, 1, 1);
+        }
+        c.due("the tenth drifts", x.drift(0, 4, 1, 1), true);
+        c.due("into LEAF 4", x.hit(0, 4, 14, 44, 1, 1), 9);
+        c.due("why in LEAF 4", x.why(1, 0, 4, 44, 14), 3);
+        x.log(0, 5, 50, 30, 0);
+        x.flaw(0, 1, 20, 30, 1, 1);
+        c.due("the first of a new LOG drifts", x.drift(0, 2, 0, 0), true);
+        c.due("the FLAWS before are gone", x.why(1, 0, 1, 20, 10), 0);
     }
 
     private static void leaf(Checks c) {

@@ -148,6 +148,15 @@ public final class PlaceTest {
         dueWhy(c, 4, 0, 0, 0, 0, 5);
         x.tone(0, 50, 0);
         dueWhy(c, 4, 0, 0, 0, 0, 0);
+        x.log(1, 12, 30, 20, 0);
+        x.tone(1, 50, 5);
+        c.door(5, 1, 1, 0, "9/~9");
+        dueWhy(c, 5, 1, 2, 0, 0, 0);
+        c.duePlace("one LEAF alone", 5, 1, 0, 0, 0);
+        c.door(5, 1, 1, 44, "9|0");
+        dueWhy(c, 5, 1, 2, 0, 0, 5);
+        c.door(5, 1, 1, 45, "9|0");
+        dueWhy(c, 5, 1, 2, 0, 0, 0);
     }
 
     private static void stacks(Checks c) {
@@ -296,6 +305,12 @@ public final class PlaceTest {
         c.due("of(5, 7), the LEAF that it is counted from", x.of(5, 7), 0);
         c.due("a FLAW that comes later", x.flaw(1, 2, 0, 0, 1, 1), 1);
         c.due("the DOOR stays made", x.of(5, 6), 1);
+        x.log(0, 1, 10, 10, 0);
+        c.door(6, 4, 4, 0, "0");
+        c.due("make(6, 0)", x.make(6, 0), 1);
+        x.flaw(0, 0, 0, 0, 4, 4);
+        c.door(7, 4, 4, 0, "0");
+        c.duePlace("beside a CUT with a FLAW in it", 7, 0, 0, 0, 4);
     }
 
     private static void makeNone(Checks c) {
