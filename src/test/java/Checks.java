@@ -1,3 +1,5 @@
+import java.util.List;
+
 /** Counts and prints the answers that are not as due; holds one new desk after another. */
 final class Checks {
     /** A desk is promised for so many calls. */
@@ -25,6 +27,20 @@ final class Checks {
 
     void due(String call, boolean got, boolean want) {
         due(call, got ? 1 : 0, want ? 1 : 0);
+    }
+
+    /** What is seen of a desk behind a call must be what is seen without that call. */
+    void dueStill(String call, List<String> seen, List<String> before) {
+        asked++;
+        for (int k = 0; k < Math.max(seen.size(), before.size()); k++) {
+            String now = k < seen.size() ? seen.get(k) : "nothing";
+            String then = k < before.size() ? before.get(k) : "nothing";
+            if (!now.equals(then)) {
+                wrong++;
+                System.out.println(part + ": behind " + call + " there is " + now + ", but without it " + then);
+                return;
+            }
+        }
     }
 
     /** Feeds a text and cuts the tape at its end. */
