@@ -29,6 +29,7 @@ public final class BoxEdgeTest {
         t.farNumbers();
         t.tonesApart();
         t.leafOfNoPiece();
+        t.onlyItsOwnLeavesAreAsWide();
         t.lastPlace();
         t.fullLeaf();
         t.c.finish();
@@ -493,6 +494,24 @@ public final class BoxEdgeTest {
         c.door(1, 1, 1, 0, "0");
         dueWhy("LEAF 3, where it is cut", 1, 3, 0, 3, 4);
         c.duePlace("beside the CUT of LEAF 1", 1, 0, 1, 0, 4);
+    }
+
+    /** A DOOR whose least offset is not 0 is as wide as its own LEAVES let it be, not LEAF f. */
+    private void onlyItsOwnLeavesAreAsWide() {
+        for (int grows = -2; grows <= 2; grows++) {
+            for (int offset = 0; offset <= 9; offset++) {
+                VeneerDesk x = c.part("offset " + offset + ", grows " + grows);
+                x.log(0, 10, 10, 30, grows);
+                int wide = 30 + offset * grows;
+                c.door(0, wide, 10, 0, String.valueOf(offset));
+                c.duePlace("just as wide", 0, 0, 0, 0, 0);
+                c.due("make", x.make(0, 0), 1);
+                c.due("CUTS of that LEAF", x.leaf(0, offset, 3), 1);
+                c.door(1, wide + 1, 10, 0, String.valueOf(offset));
+                boolean later = grows > 0 && offset < 9;
+                c.due("1 wider", x.place(1, 0, 0), later ? 1 : -1);
+            }
+        }
     }
 
     /** PLACE: "the first (f, then y, then x) of all": also when it is the last that can be. */

@@ -29,6 +29,7 @@ public final class TextEdgeTest {
         t.sizesAboveOneAnother();
         t.allSizes();
         t.tooBigWithin();
+        t.changedBeyondTheLastColumn();
         t.offsetsDoNotWrap();
         t.jointsAtTheEdges();
         t.c.finish();
@@ -382,6 +383,23 @@ public final class TextEdgeTest {
         dueFault("0|8x!(0/0)", UNEQUAL, 1);
         dueFault("0|~8x(0|0)", TOO_BIG, 4);
         dueFault("0|~8x0", TOO_BIG, 1);
+    }
+
+    /** Parts that would stand in a 9th column or row are read, and changed, before the FAULT is met. */
+    private void changedBeyondTheLastColumn() {
+        for (String change : new String[] {"", "!", "~", "2x", "!~", "~2x!"}) {
+            for (int size = 1; size <= 8; size++) {
+                String beside = "8x" + high(size);
+                dueFault(beside + "|" + change + high(size), TOO_BIG, beside.length());
+                String above = wide(size) + "/" + repeated(size + "x0", "/", 7).replace("1x", "");
+                boolean wider = change.contains("2x");
+                if (!wider) {
+                    dueFault(above + "/" + change + wide(size), TOO_BIG, above.length());
+                } else if (size <= 4) {
+                    dueFault(above + "/" + change + wide(size), UNEQUAL, above.length());
+                }
+            }
+        }
     }
 
     /** BOOK and SLIP: "1 apart", "1 more", "1 less"; 9 and 0 are not. */
