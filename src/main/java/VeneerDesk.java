@@ -327,7 +327,7 @@ public final class VeneerDesk {
         }
 
         int byteAt(int i) {
-            return isFrom(i, 0, length - 1) ? bytes[i] : NONE;
+            return 0 <= i && i < length ? bytes[i] : NONE;
         }
     }
 
