@@ -35,17 +35,17 @@ public final class VeneerDesk {
     private static final int NOT_WITHIN = -3;
     private static final int WRONG_NUMBER = -2;
 
-    private final Tape tape;
     private final Reader reader;
-    private final Yard yard;
+    private final Tape tape;
     private final Planner planner;
+    private final Yard yard;
 
     /** No LOGS, no DOORS. */
     public VeneerDesk() {
-        tape = new Tape();
-        reader = new Reader(tape);
-        yard = new Yard();
-        planner = new Planner(yard);
+        reader = new Reader();
+        tape = reader.tape;
+        planner = new Planner();
+        yard = planner.yard;
     }
 
     /** Puts twenty bytes behind those on the tape. */
@@ -482,19 +482,15 @@ public final class VeneerDesk {
         private static final int UNEQUAL = 2;
         private static final int TOO_BIG = 3;
 
+        final Tape tape = new Tape();
         final Drawing drawing = new Drawing();
         int faultKind;
         int faultPlace = NONE;
 
-        private final Tape tape;
         private int at;
         // The size of what was read last.
         private int wide;
         private int high;
-
-        Reader(Tape tape) {
-            this.tape = tape;
-        }
 
         boolean readTape() {
             at = 0;
@@ -1080,17 +1076,16 @@ public final class VeneerDesk {
         private static final int NO_DOORS = -1;
         private static final int NO_PLAN = -2;
 
+        final Yard yard = new Yard();
         final int[] told = new int[DOORS];
 
-        private final Yard yard;
         private final int[] waiting = new int[MOST_WAITING];
         private final int[] tried = new int[MOST_WAITING];
         private final int[] best = new int[MOST_WAITING];
         private int count;
         private int bestLogs;
 
-        Planner(Yard yard) {
-            this.yard = yard;
+        Planner() {
             Arrays.fill(told, NONE);
         }
 
